@@ -36,6 +36,7 @@ final class ClerksBoundsTest {
         getDeadThoughFull();
         getNoComesAheadOfFull();
         getRestsOfLikeLives();
+        restsOfTheFirstAndLastOfFive();
         writesWithin();
         writesBad();
         losesBad();
@@ -93,6 +94,10 @@ final class ClerksBoundsTest {
         B.due("full pages", o.of(0, 1), 23);
         B.due("full pages", o.of(1, 1), 23);
         B.due("full lives", o.of(1, 0), 60);
+        OrphanLogs p = States.fallen().tell();
+        B.due("fallen pages", p.told(9), 7);
+        for (int c = 0; c < 5; c++) B.due("fallen life", p.of(c, 0), 1);
+        for (int c = 0; c < 5; c++) B.due("fallen now", p.of(c, 1), 1);
     }
 
     // ---- 1
@@ -382,6 +387,28 @@ final class ClerksBoundsTest {
         Story back = later.then(o -> o.get(1, 3), o -> o.get(1, 2));
         B.answers("5 the lesser life comes later", back, o -> o.page(1, 3, 0, 2), 1);
         B.answers("5 its page stays", back, o -> o.page(1, 3, 0, 3), 4);
+    }
+
+    /** The most clerks: what one page or letter rests on of the first and the last is not its neighbour's. */
+    private static void restsOfTheFirstAndLastOfFive() {
+        Story pages = States.begun(5).then(o -> o.work(4, 1), o -> o.send(4, 0), o -> o.work(0, 1), o -> o.get(0, 0))
+                .times(2, o -> o.work(0, 1));
+        int[] due = {0, 0, 1, 1, 1};
+        for (int page = 0; page < due.length; page++) {
+            int k = page;
+            B.answers("5 page " + k + " rests on the last clerk", pages, o -> o.page(0, k, 4, 3), due[k]);
+            B.answers("5 page " + k + " rests on itself", pages, o -> o.page(0, k, 0, 3), k);
+        }
+        Story letters = States.begun(5).then(o -> o.work(4, 1), o -> o.send(4, 1), o -> o.send(2, 0), o -> o.work(0, 1),
+                o -> o.get(0, 0));
+        B.answers("5 another letter is not taken", letters, o -> o.page(0, 2, 4, 3), 0);
+        B.answers("5 nor put on the page ahead", letters, o -> o.page(0, 1, 4, 3), 0);
+        Story behind = States.begun(5).then(o -> o.work(4, 1), o -> o.send(4, 1), o -> o.send(2, 1), o -> o.loses(0));
+        Story ahead = States.begun(5).then(o -> o.send(2, 1), o -> o.work(0, 1), o -> o.send(0, 1), o -> o.loses(0));
+        B.answers("13 on the last clerk", behind, o -> o.letter(1, 0, 2), 0);
+        B.answers("13 behind it", behind, o -> o.letter(1, 1, 2), 0);
+        B.answers("13 ahead of a dead one", ahead, o -> o.letter(1, 0, 2), 0);
+        B.answers("13 the dead one", ahead, o -> o.letter(1, 1, 2), 1);
     }
 
     // ---- 6

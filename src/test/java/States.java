@@ -32,9 +32,20 @@ record States(String name, int n, Story story) {
                 .times(15, o -> o.says(n - 1)).typed("r;".repeat(30) + " ".repeat(60));
     }
 
+    /** All five clerks have just fallen by a loss of the last one, each with a page that stayed. */
+    static Story fallen() {
+        Story story = begun(5).times(4, o -> o.work(4, 2)).then(o -> o.writes(4, 1));
+        for (int c = 0; c < 4; c++) {
+            int d = c;
+            story = story.then(o -> o.work(d, 1), o -> o.send(4, d), o -> o.get(d, 0), o -> o.says(d));
+        }
+        return story.then(o -> o.loses(4));
+    }
+
     static List<States> all() {
         return List.of(new States("new", 3, new Story()), new States("two", 2, begun(2)), new States("five", 5, begun(5)),
                 new States("busy", 3, busy(3)), new States("busy two", 2, busy(2)), new States("busy five", 5, busy(5)),
-                new States("full", 3, full(3)), new States("full two", 2, full(2)));
+                new States("full", 3, full(3)), new States("full two", 2, full(2)),
+                new States("fallen", 5, fallen()));
     }
 }
